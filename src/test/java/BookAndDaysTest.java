@@ -8,10 +8,12 @@ public final class BookAndDaysTest {
         giveRefuses();
         giveMakesALearntOneGiven();
         forgetTakesOut();
+        forgetMovesPairs();
         forgetRefuses();
         passRaisesTrust();
         passLetsLearntWordsGo();
         passLetsSeveralGo();
+        theFirstPlaceIsNoOther();
         passRefuses();
         CHECK.end("BookAndDaysTest");
     }
@@ -121,6 +123,8 @@ public final class BookAndDaysTest {
         write(x, "777");
         write(x, "777");
         CHECK.same("3: pair ahead", x.pair(0, 2), 1);
+        x.pass(2);
+        x.give(33, 2);
         CHECK.yes("3: it was there", x.forget(33));
         CHECK.same("3: words", x.house(0), 2);
         CHECK.same("3: the one behind moves", x.ofBook(1, 0), 777);
@@ -137,6 +141,40 @@ public final class BookAndDaysTest {
             CHECK.same("3: both ways", x.pair(other, 2), 0);
         }
         CHECK.same("3: the text stays", x.text(), "1 777 33 777 777 ");
+    }
+
+    /** Three words, with other pairs each way, and the first of them goes. */
+    private static void forgetMovesPairs() {
+        Putitback x = new Putitback();
+        x.give(1, 1);
+        x.give(33, 1);
+        x.give(777, 1);
+        String[] row = {"33", "777", "33", "777", "777", "1", "33", "33", "33", "33", "1", "777"};
+        for (String keys : row) {
+            write(x, keys);
+        }
+        x.forget(1);
+        int[][] due = {{3, 2}, {1, 1}};
+        for (int one = 0; one < 2; one++) {
+            for (int other = 0; other < 2; other++) {
+                CHECK.same("3: pair(" + one + ", " + other + ")", x.pair(one, other), due[one][other]);
+            }
+        }
+        x.give(1, 1);
+        for (int other = 0; other < 3; other++) {
+            CHECK.same("3: none of the new one", x.pair(2, other), 0);
+            CHECK.same("3: none with the new one", x.pair(other, 2), 0);
+        }
+    }
+
+    private static void theFirstPlaceIsNoOther() {
+        Putitback x = withLearnt56();
+        x.forget(55);
+        CHECK.same("4: a learnt one at the first place", x.ofBook(0, 2), 1);
+        CHECK.same("4: it is counted", x.house(1), 1);
+        CHECK.same("4: it stays for 29 days", x.pass(29), 0);
+        CHECK.same("4: and goes, too", x.pass(1), 1);
+        CHECK.same("4: an empty book", x.house(0), 0);
     }
 
     private static void forgetRefuses() {

@@ -24,7 +24,7 @@ public final class ModelRunsTest {
         this.random = new Random(seed);
         this.keys = 2 + random.nextInt(8);
         this.oddness = 3 + random.nextInt(40);
-        this.longestPass = random.nextBoolean() ? 60 : 3;
+        this.longestPass = new int[] {60, 3, 31}[random.nextInt(3)];
         for (int i = 0; i < words.length; i++) {
             words[i] = newWord();
         }
@@ -103,11 +103,20 @@ public final class ModelRunsTest {
             case 9, 10, 11, 12 -> both("putBack()", keyboard::putBack, model::putBack);
             case 13 -> both("knock()", keyboard::knock, model::knock);
             case 14 -> tap(below(10));
+            case 15 -> forgetTheFirst();
             default -> {
                 type();
                 end();
                 both("putBack()", keyboard::putBack, model::putBack);
             }
+        }
+    }
+
+    /** So that learnt words come to the first places, too. */
+    private void forgetTheFirst() {
+        if (model.house(0) > 0) {
+            int first = model.ofBook(0, 0);
+            both("forget(" + first + ")", () -> keyboard.forget(first), () -> model.forget(first));
         }
     }
 

@@ -400,6 +400,24 @@ public final class TypingTest {
         CHECK.same("9: then the new one itself", x.ofBook(11, 0), 7);
         CHECK.same("9: with 8 ahead of it", x.ofBook(10, 0), 8);
         CHECK.no("9: 9 is gone", x.forget(9));
+        theFirstPlaceGoes();
+    }
+
+    /** The learnt one with the least count stands at the first place. */
+    private static void theFirstPlaceGoes() {
+        Putitback x = new Putitback();
+        x.give(4, 1);
+        mend(x, "1", 4, 3);
+        mend(x, "2", 4, 3);
+        x.forget(4);
+        x.give(555, 1);
+        for (int i = 0; i < 9; i++) {
+            x.give(661 + i, 1);
+        }
+        mend(x, "9", 555, 3);
+        CHECK.same("9: the first place went", x.ofBook(0, 0), 2);
+        CHECK.same("9: for the new one", x.ofBook(11, 0), 9);
+        CHECK.same("9: its count", x.ofBook(11, 1), 1);
     }
 
     private static void putBackFindsNoRoom() {

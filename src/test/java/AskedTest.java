@@ -19,13 +19,6 @@ public final class AskedTest {
         CHECK.end("AskedTest");
     }
 
-    private static int write(Putitback x, String keys) {
-        for (char key : keys.toCharArray()) {
-            x.tap(key - '0');
-        }
-        return x.blank();
-    }
-
     private static void costOfKeys() {
         String[] near = {"24", "135", "26", "157", "2468", "359", "48", "579", "68"};
         Putitback x = new Putitback();
@@ -66,11 +59,11 @@ public final class AskedTest {
         x.pass(2);
         for (int hand = 0; hand < 3; hand++) {
             x.hand(hand);
-            write(x, "56");
+            Typist.write(x, 56);
             x.putBack();
         }
         x.pass(3);
-        write(x, "56");
+        Typist.write(x, 56);
         int[][] due = {{55, 11, 0, 2, -1}, {56, 2, 1, 5, -1}};
         for (int place = 0; place < 2; place++) {
             for (int what = 0; what < 5; what++) {
@@ -90,8 +83,8 @@ public final class AskedTest {
         x.tap(5);
         CHECK.same("13: cost 0, count 8", x.ofBook(0, 4), -8);
         x.blank();
-        write(x, "55");
-        write(x, "55");
+        Typist.write(x, 55);
+        Typist.write(x, 55);
         x.tap(8);
         CHECK.same("13: two pairs", x.ofBook(0, 4), 30 - 9 - 4);
         CHECK.same("13: none with the other, cost 11", x.ofBook(1, 4), 110 - 9);
@@ -99,12 +92,12 @@ public final class AskedTest {
         x.tap(8);
         CHECK.same("13: none ahead of it", x.ofBook(0, 4), 30 - 9);
         x.send();
-        write(x, "55");
-        write(x, "9999");
+        Typist.write(x, 55);
+        Typist.write(x, 9999);
         x.tap(8);
         CHECK.same("13: the last one is not in the book", x.ofBook(0, 4), 30 - 9);
         x.send();
-        write(x, "55");
+        Typist.write(x, 55);
         x.forget(55);
         x.tap(8);
         CHECK.same("13: nor is a forgotten one", x.ofBook(0, 4), 110 - 9);
@@ -137,8 +130,8 @@ public final class AskedTest {
         x.give(1, 1);
         x.give(999, 1);
         for (int i = 0; i < 3; i++) {
-            write(x, "1");
-            write(x, "999");
+            Typist.write(x, 1);
+            Typist.write(x, 999);
         }
         CHECK.same("14: the other behind the one", x.pair(0, 1), 3);
         CHECK.same("14: the one behind the other", x.pair(1, 0), 2);
@@ -150,9 +143,9 @@ public final class AskedTest {
         Putitback x = new Putitback();
         CHECK.index("15: no word", x, () -> x.ofText(0, 0));
         x.give(55, 1);
-        write(x, "55");
+        Typist.write(x, 55);
         x.hand(2);
-        write(x, "58");
+        Typist.write(x, 58);
         x.hand(1);
         x.tap(4);
         int[][] due = {{55, 55, 0}, {58, 55, 2}};
@@ -175,16 +168,13 @@ public final class AskedTest {
     private static void handTells() {
         Putitback x = new Putitback();
         x.give(55, 1);
-        String[] typed = {"56", "56", "54", "52"};
-        for (String keys : typed) {
-            for (char key : keys.toCharArray()) {
-                x.tap(key - '0');
-            }
-            x.choose(0);
+        int[] typed = {56, 56, 54, 52};
+        for (int word : typed) {
+            Typist.chooseNth(x, word, 0);
             x.putBack();
         }
         x.hand(2);
-        write(x, "58");
+        Typist.write(x, 58);
         x.putBack();
         int[][] due = {{0, 3, 4}, {3, 0, 0}, {2, 1, 1}};
         for (int hand = 0; hand < 3; hand++) {
@@ -203,12 +193,12 @@ public final class AskedTest {
     private static void putBacksTells() {
         Putitback x = new Putitback();
         x.give(55, 1);
-        write(x, "56");
+        Typist.write(x, 56);
         x.putBack();
-        write(x, "56");
+        Typist.write(x, 56);
         x.putBack();
         x.hand(1);
-        write(x, "54");
+        Typist.write(x, 54);
         x.putBack();
         CHECK.same("17: twice", x.putBacks(0, 56), 2);
         CHECK.same("17: of another word", x.putBacks(0, 54), 0);
@@ -238,11 +228,11 @@ public final class AskedTest {
         x.pass(5);
         for (int hand = 0; hand < 3; hand++) {
             x.hand(hand);
-            write(x, "56");
+            Typist.write(x, 56);
             x.putBack();
         }
-        write(x, "2299");
-        write(x, "52");
+        Typist.write(x, 2299);
+        Typist.write(x, 52);
         x.tap(7);
         x.tap(8);
         x.erase();
@@ -264,7 +254,7 @@ public final class AskedTest {
         CHECK.same("20: an open word alone", x.typed(), "9");
         x.blank();
         x.give(55, 1);
-        write(x, "56");
+        Typist.write(x, 56);
         CHECK.same("19: a blank behind each", x.text(), "9 55 ");
         CHECK.same("20: a blank behind each", x.typed(), "9 56 ");
         x.tap(1);
@@ -277,7 +267,7 @@ public final class AskedTest {
         CHECK.same("19: put back", x.text(), "9 56 ");
         CHECK.same("20: put back", x.typed(), "9 56 ");
         for (int i = 0; i < 10; i++) {
-            write(x, "987654");
+            Typist.write(x, 987654);
         }
         x.tap(3);
         CHECK.same("19: signs of a full text", x.text().length(), 2 + 3 + 70 + 1);

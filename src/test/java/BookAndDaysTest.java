@@ -18,14 +18,6 @@ public final class BookAndDaysTest {
         CHECK.end("BookAndDaysTest");
     }
 
-    /** Types the word with the hand that types, and ends it by a blank. */
-    private static int write(Putitback x, String keys) {
-        for (char key : keys.toCharArray()) {
-            x.tap(key - '0');
-        }
-        return x.blank();
-    }
-
     private static void aNewOneIsEmpty() {
         Putitback x = new Putitback();
         for (int what = 0; what <= 9; what++) {
@@ -61,8 +53,8 @@ public final class BookAndDaysTest {
         CHECK.same("2: the day from now on", x.ofBook(1, 3), 7);
         CHECK.same("2: no word twice", x.house(0), 3);
         CHECK.same("2: another day is left", x.ofBook(0, 3), 0);
-        write(x, "1");
-        write(x, "111111");
+        Typist.write(x, 1);
+        Typist.write(x, 111111);
         CHECK.same("2: a pair", x.pair(0, 2), 1);
         x.give(111111, 1);
         CHECK.same("2: pairs stay as it is given again", x.pair(0, 2), 1);
@@ -94,7 +86,7 @@ public final class BookAndDaysTest {
         x.give(55, 9);
         for (int hand = 0; hand < 3; hand++) {
             x.hand(hand);
-            write(x, "56");
+            Typist.write(x, 56);
             x.putBack();
         }
         x.send();
@@ -117,11 +109,11 @@ public final class BookAndDaysTest {
         x.give(33, 2);
         x.pass(1);
         x.give(777, 3);
-        write(x, "1");
-        write(x, "777");
-        write(x, "33");
-        write(x, "777");
-        write(x, "777");
+        Typist.write(x, 1);
+        Typist.write(x, 777);
+        Typist.write(x, 33);
+        Typist.write(x, 777);
+        Typist.write(x, 777);
         CHECK.same("3: pair ahead", x.pair(0, 2), 1);
         x.pass(2);
         x.give(33, 2);
@@ -149,9 +141,9 @@ public final class BookAndDaysTest {
         x.give(1, 1);
         x.give(33, 1);
         x.give(777, 1);
-        String[] row = {"33", "777", "33", "777", "777", "1", "33", "33", "33", "33", "1", "777"};
-        for (String keys : row) {
-            write(x, keys);
+        int[] row = {33, 777, 33, 777, 777, 1, 33, 33, 33, 33, 1, 777};
+        for (int word : row) {
+            Typist.write(x, word);
         }
         x.forget(1);
         int[][] due = {{3, 2}, {1, 1}};
@@ -189,11 +181,11 @@ public final class BookAndDaysTest {
     private static void passRaisesTrust() {
         Putitback x = new Putitback();
         x.give(55, 9);
-        write(x, "56");
+        Typist.write(x, 56);
         x.putBack();
-        write(x, "54");
+        Typist.write(x, 54);
         x.putBack();
-        write(x, "52");
+        Typist.write(x, 52);
         x.putBack();
         CHECK.same("4: trust fell", x.ofHand(0, 0), 0);
         CHECK.same("4: pass", x.pass(1), 0);
@@ -209,7 +201,7 @@ public final class BookAndDaysTest {
     private static void passLetsLearntWordsGo() {
         Putitback x = withLearnt56();
         CHECK.same("4: 29 days", x.pass(29), 0);
-        write(x, "56");
+        Typist.write(x, 56);
         CHECK.same("4: used", x.ofBook(1, 3), 29);
         CHECK.same("4: 29 days later", x.pass(29), 0);
         CHECK.same("4: 30 days later", x.pass(1), 1);
@@ -226,7 +218,7 @@ public final class BookAndDaysTest {
         for (int hand = 0; hand < 3; hand++) {
             x.hand(hand);
             x.pass(1);
-            write(x, "58");
+            Typist.write(x, 58);
             x.putBack();
         }
         x.give(9, 1);

@@ -43,10 +43,23 @@ public final class RulesTest {
         "int knock()",
         "long digest()");
 
+    /** What stands nowhere in the part of Java that LANGUAGE.md leaves, as patterns, with its rule. */
     private static final List<String> FORBIDDEN = List.of(
-        "import ", "->", "::", "synchronized", "assert ", "finally", "catch", "instanceof", "System.",
-        "Object", "equals", "hashCode", "Exact(", "Random", "while (true)", "for (;;)",
-        "String.valueOf", "\" +", "+ \"", "double", "float");
+        "2: a method reference", "::",
+        "2: a lambda", "(?m)^(?!\\s*(case\\b|default\\b)).*->",
+        "3: another type", "\\bObject\\b",
+        "4: another import", "(?m)^import (?!java\\.util\\.(ArrayList|List|Iterator|Arrays|NoSuchElementException);)",
+        "4: another function", "\\b(String\\.valueOf|String\\.format|Math\\.\\w+Exact|Math\\.random)\\b",
+        "4: more than arraycopy", "\\bSystem\\.(?!arraycopy\\b)",
+        "5: a static block", "\\bstatic\\s*\\{",
+        "5: static, but not final", "(?m)^\\s*(private |public )?static (?!final |class |abstract |record |enum |interface )"
+                + "[^(]*[;=]",
+        "6: left out of the language", "\\b(synchronized|assert|finally|hashCode|toString\\(\\) \\{)",
+        "6: caught what the machine throws", "\\bcatch \\((Exception|Throwable|Error|RuntimeException|NullPointer"
+                + "|ArrayIndex|StringIndex|ClassCast|NegativeArray|ArrayStore)",
+        "9: a loop without an end", "while \\(true\\)|for \\(;;\\)",
+        "10: texts joined by +", "\"\\s*\\+|\\+\\s*\"",
+        "13: time, chance, the world", "\\b(Random|Thread|File|Files|Path|Instant|LocalDate)\\b");
 
     public static void main(String[] args) throws IOException {
         faceIsThatOfTheDocument();
@@ -92,41 +105,49 @@ public final class RulesTest {
         FACE.forEach(row -> names.add(row.replaceAll("^\\S+ |\\(.*$", "")));
         List<Class<?>> classes = new ArrayList<>(List.of(Putitback.class.getDeclaredClasses()));
         for (Class<?> inside : classes) {
-            CHECK.yes(inside + " is private and static",
-                    Modifier.isPrivate(inside.getModifiers()) && Modifier.isStatic(inside.getModifiers()));
+            int modifiers = inside.getModifiers();
+            CHECK.yes("rule 1: " + inside + " is not public", !Modifier.isPublic(modifiers) && !Modifier.isProtected(modifiers));
         }
-        CHECK.yes("some twelve classes", classes.size() <= 11);
+        CHECK.yes("rule 11: some twelve classes", classes.size() <= 12);
+        for (Field field : Putitback.class.getDeclaredFields()) {
+            CHECK.yes("rule 1: " + field + " is private", Modifier.isPrivate(field.getModifiers()));
+        }
+        for (Method method : Putitback.class.getDeclaredMethods()) {
+            int modifiers = method.getModifiers();
+            CHECK.yes("rule 1: " + method + " is public or private", Modifier.isPublic(modifiers) || Modifier.isPrivate(modifiers));
+        }
         classes.add(Putitback.class);
-        for (Class<?> one : classes) {
-            int fields = 0;
-            for (Field field : one.getDeclaredFields()) {
-                CHECK.yes(field + " is private", Modifier.isPrivate(field.getModifiers()));
-                boolean isStatic = Modifier.isStatic(field.getModifiers());
-                CHECK.yes(field + " is final if static", !isStatic || Modifier.isFinal(field.getModifiers()));
-                fields += isStatic ? 0 : 1;
-            }
-            CHECK.yes(one + " has some twenty fields", fields <= 20);
-            for (Method method : one.getDeclaredMethods()) {
-                boolean isPublic = Modifier.isPublic(method.getModifiers());
-                CHECK.yes(method + " bears no name of the face", isPublic || !names.contains(method.getName()));
-                CHECK.yes(method + " is public just on the face", !isPublic || one == Putitback.class);
-                CHECK.yes(method + " is private or of a class inside",
-                        isPublic || one != Putitback.class || Modifier.isPrivate(method.getModifiers()));
-                CHECK.yes(method + " has seven parameters at most", method.getParameterCount() <= 7);
-            }
+        classes.forEach(one -> membersKeepToTheRules(one, names));
+    }
+
+    private static void membersKeepToTheRules(Class<?> one, Set<String> names) {
+        int fields = 0;
+        for (Field field : one.getDeclaredFields()) {
+            boolean isStatic = Modifier.isStatic(field.getModifiers());
+            CHECK.yes("rule 5: " + field + " is final if static", !isStatic || Modifier.isFinal(field.getModifiers()));
+            fields += isStatic ? 0 : 1;
+        }
+        CHECK.yes("rule 11: " + one + " has some twenty fields", fields <= 20);
+        for (Method method : one.getDeclaredMethods()) {
+            CHECK.no("rule 1: " + method + " bears a name of the face",
+                    Modifier.isPrivate(method.getModifiers()) && names.contains(method.getName()));
+            CHECK.yes("rule 11: " + method + " has seven parameters at most", method.getParameterCount() <= 7);
         }
     }
 
     private static void forbiddenWordsAreAbsent(String source) {
         String code = source.replaceAll("(?s)/\\*.*?\\*/", "").replaceAll("//.*", "");
-        for (String word : FORBIDDEN) {
-            CHECK.no("the source has: " + word, code.contains(word));
+        for (int i = 0; i + 1 < FORBIDDEN.size(); i += 2) {
+            Matcher found = Pattern.compile(FORBIDDEN.get(i + 1)).matcher(code);
+            if (found.find()) {
+                CHECK.tell("rule " + FORBIDDEN.get(i) + ": " + found.group().trim());
+            }
         }
         Matcher thrown = Pattern.compile("throw [^;]*;").matcher(code);
-        Pattern fine = Pattern.compile(
-                "throw new (IllegalState|IllegalArgument|IndexOutOfBounds)Exception\\((\"[^\"]*\")?\\);");
+        Pattern fine = Pattern.compile("throw new (IllegalState|IllegalArgument|IndexOutOfBounds|Arithmetic"
+                + "|UnsupportedOperation|NoSuchElement|Runtime)(Exception)\\((\"[^\"]*\")?\\);");
         while (thrown.find()) {
-            CHECK.yes("a written throw: " + thrown.group(), fine.matcher(thrown.group()).matches());
+            CHECK.yes("rule 6: a written throw: " + thrown.group(), fine.matcher(thrown.group()).matches());
         }
     }
 

@@ -24,22 +24,6 @@ public final class TypingTest {
         CHECK.end("TypingTest");
     }
 
-    private static void taps(Putitback x, String keys) {
-        for (char key : keys.toCharArray()) {
-            x.tap(key - '0');
-        }
-    }
-
-    private static int write(Putitback x, String keys) {
-        taps(x, keys);
-        return x.blank();
-    }
-
-    private static int pick(Putitback x, String keys, int nth) {
-        taps(x, keys);
-        return x.choose(nth);
-    }
-
     private static void handChanges() {
         Putitback x = new Putitback();
         CHECK.same("5: hand 0 at first", x.hand(2), 0);
@@ -50,7 +34,7 @@ public final class TypingTest {
         for (int hand : noHands) {
             CHECK.index("5: hand(" + hand + ")", x, () -> x.hand(hand));
         }
-        taps(x, "12");
+        Typist.taps(x, 12);
         x.hand(2);
         x.blank();
         CHECK.same("5: the hand of the blank", x.ofText(0, 2), 2);
@@ -80,10 +64,10 @@ public final class TypingTest {
 
     private static void blankShowsWhatIsInTheBook() {
         Putitback x = new Putitback();
-        CHECK.same("7: an empty book", write(x, "12"), 12);
+        CHECK.same("7: an empty book", Typist.write(x, 12), 12);
         x.give(12, 1);
         x.give(13, 99);
-        CHECK.same("7: in the book", write(x, "12"), 12);
+        CHECK.same("7: in the book", Typist.write(x, 12), 12);
         CHECK.same("7: not changed", x.house(6), 0);
         CHECK.same("7: typed", x.ofText(1, 0), 12);
         CHECK.same("7: shown", x.ofText(1, 1), 12);
@@ -94,82 +78,82 @@ public final class TypingTest {
         Putitback x = new Putitback();
         x.give(11, 1);
         x.give(22, 1);
-        CHECK.same("7: the smallest place of several", write(x, "12"), 11);
+        CHECK.same("7: the smallest place of several", Typist.write(x, 12), 11);
         CHECK.same("7: changed", x.house(6), 1);
         CHECK.same("7: typed stays", x.ofText(0, 0), 12);
         x.send();
         x.give(22, 3);
-        CHECK.same("7: the count counts", write(x, "12"), 22);
+        CHECK.same("7: the count counts", Typist.write(x, 12), 22);
         x.send();
         x.give(11, 9);
         x.give(22, 60);
-        CHECK.same("7: the count counts up to 9", write(x, "12"), 11);
+        CHECK.same("7: the count counts up to 9", Typist.write(x, 12), 11);
         x.send();
         x.give(22, 1);
         x.give(11, 7);
-        write(x, "11");
-        write(x, "22");
+        Typist.write(x, 11);
+        Typist.write(x, 22);
         x.send();
-        write(x, "11");
+        Typist.write(x, 11);
         x.give(11, 5);
         x.give(22, 3);
         CHECK.same("7: twice the pair counts", x.pair(0, 1), 1);
-        taps(x, "12");
+        Typist.taps(x, 12);
         CHECK.same("7: but of several the first", x.wouldShow(0), 11);
         x.give(22, 4);
         CHECK.same("7: by the pair", x.blank(), 22);
         x.send();
         x.give(11, 5);
         x.give(22, 4);
-        CHECK.same("7: no pair at the front", write(x, "12"), 11);
+        CHECK.same("7: no pair at the front", Typist.write(x, 12), 11);
     }
 
     /** Only the first offer is looked at, though one behind it is cheaper. */
     private static void blankObeysTrust() {
         Putitback x = new Putitback();
         x.give(111, 1);
-        CHECK.same("7: cost 3 with trust 3", write(x, "222"), 111);
+        CHECK.same("7: cost 3 with trust 3", Typist.write(x, 222), 111);
         x.putBack();
-        CHECK.same("7: cost 3 with trust 2", write(x, "444"), 444);
-        CHECK.same("7: cost 2 with trust 2", write(x, "221"), 111);
+        CHECK.same("7: cost 3 with trust 2", Typist.write(x, 444), 444);
+        CHECK.same("7: cost 2 with trust 2", Typist.write(x, 221), 111);
         x.putBack();
-        CHECK.same("7: cost 2 with trust 1", write(x, "441"), 441);
-        CHECK.same("7: cost 1 with trust 1", write(x, "211"), 111);
+        CHECK.same("7: cost 2 with trust 1", Typist.write(x, 441), 441);
+        CHECK.same("7: cost 1 with trust 1", Typist.write(x, 211), 111);
         x.putBack();
-        CHECK.same("7: cost 1 with trust 0", write(x, "411"), 411);
+        CHECK.same("7: cost 1 with trust 0", Typist.write(x, 411), 411);
         x.hand(1);
-        CHECK.same("7: another hand", write(x, "411"), 111);
-        CHECK.same("7: cost 4 with trust 3", write(x, "225"), 225);
+        CHECK.same("7: another hand", Typist.write(x, 411), 111);
+        CHECK.same("7: cost 4 with trust 3", Typist.write(x, 225), 225);
         Putitback y = new Putitback();
         y.give(11, 1);
         y.give(15, 9);
         y.give(88, 1);
         y.give(12, 1);
         for (int i = 0; i < 12; i++) {
-            write(y, i % 2 == 0 ? "88" : "15");
+            Typist.write(y, i % 2 == 0 ? 88 : 15);
         }
         y.send();
-        write(y, "88");
+        Typist.write(y, 88);
         y.give(15, 9);
         y.give(12, 1);
-        taps(y, "13");
+        Typist.taps(y, 13);
         CHECK.same("7: the first by worth", y.offer(0), 15);
         CHECK.same("7: of a pair of 6", y.ofBook(1, 4), 20 - 9 - 12);
         CHECK.same("7: and cost 2 is fine", y.wouldShow(0), 15);
         y.send();
-        write(y, "88");
+        Typist.write(y, 88);
         y.hand(2);
         y.send();
-        pick(y, "11", 1);
+        Typist.chooseNth(y, 11, 1);
         y.putBack();
         y.send();
-        pick(y, "11", 1);
+        Typist.chooseNth(y, 11, 1);
         y.putBack();
         y.send();
-        write(y, "88");
+        Typist.write(y, 88);
         y.give(15, 9);
         y.give(12, 1);
-        taps(y, "13");
+        Typist.taps(y, 13);
         CHECK.same("7: trust fell to 1", y.ofHand(2, 0), 1);
         CHECK.same("7: cheaper ones behind do not count", y.wouldShow(2), 13);
         CHECK.same("7: so it is shown as typed", y.blank(), 13);
@@ -178,16 +162,16 @@ public final class TypingTest {
     private static void blankBelievesWhoPutBackTwice() {
         Putitback x = new Putitback();
         x.give(55, 9);
-        write(x, "56");
+        Typist.write(x, 56);
         x.putBack();
-        CHECK.same("7: put back once", write(x, "56"), 55);
+        CHECK.same("7: put back once", Typist.write(x, 56), 55);
         x.putBack();
         x.pass(5);
-        CHECK.same("7: put back twice", write(x, "56"), 56);
+        CHECK.same("7: put back twice", Typist.write(x, 56), 56);
         CHECK.same("7: not changed by that", x.house(6), 2);
         CHECK.same("7: not used, as it is not in the book", x.ofBook(0, 1), 11);
         x.hand(1);
-        CHECK.same("7: another hand did not", write(x, "56"), 55);
+        CHECK.same("7: another hand did not", Typist.write(x, 56), 55);
     }
 
     private static void blankUses() {
@@ -195,22 +179,22 @@ public final class TypingTest {
         x.give(55, 9);
         x.give(11, 1);
         x.pass(4);
-        write(x, "56");
+        Typist.write(x, 56);
         CHECK.same("7: count", x.ofBook(0, 1), 10);
         CHECK.same("7: day", x.ofBook(0, 3), 4);
         CHECK.same("7: no pair at the front", x.pair(0, 0), 0);
-        write(x, "11");
+        Typist.write(x, 11);
         CHECK.same("7: pair", x.pair(0, 1), 1);
         CHECK.same("7: not the other way", x.pair(1, 0), 0);
-        write(x, "11");
+        Typist.write(x, 11);
         CHECK.same("7: with itself", x.pair(1, 1), 1);
-        write(x, "999999");
-        write(x, "11");
+        Typist.write(x, 999999);
+        Typist.write(x, 11);
         CHECK.same("7: none with a word that is not in the book", x.pair(1, 1), 1);
         CHECK.same("7: nor with the one ahead of that", x.ofBook(1, 1), 4);
-        write(x, "56");
+        Typist.write(x, 56);
         x.putBack();
-        write(x, "11");
+        Typist.write(x, 11);
         CHECK.same("7: put back, so no pair", x.pair(0, 1), 1);
         CHECK.same("7: but the count stays", x.ofBook(0, 1), 11);
     }
@@ -219,7 +203,7 @@ public final class TypingTest {
         Putitback x = new Putitback();
         x.give(7, 95);
         for (int i = 0; i < 12; i++) {
-            write(x, "7");
+            Typist.write(x, 7);
         }
         CHECK.same("7: count 99 at most", x.ofBook(0, 1), 99);
         CHECK.same("7: pair 9 at most", x.pair(0, 0), 9);
@@ -232,10 +216,10 @@ public final class TypingTest {
         Putitback x = new Putitback();
         CHECK.state("7: no key", x, x::blank);
         for (int i = 0; i < 12; i++) {
-            write(x, "7");
+            Typist.write(x, 7);
         }
         CHECK.state("7: a full text, no key", x, x::blank);
-        taps(x, "78");
+        Typist.taps(x, 78);
         CHECK.state("7: a full text", x, x::blank);
         CHECK.same("7: the open word stays", x.house(3), 78);
     }
@@ -245,7 +229,7 @@ public final class TypingTest {
         x.give(11, 1);
         x.give(999999, 98);
         x.pass(3);
-        CHECK.same("8: the second offer", pick(x, "12", 1), 999999);
+        CHECK.same("8: the second offer", Typist.chooseNth(x, 12, 1), 999999);
         CHECK.same("8: typed", x.ofText(0, 0), 12);
         CHECK.same("8: shown", x.ofText(0, 1), 999999);
         CHECK.same("8: used", x.ofBook(1, 1), 99);
@@ -253,11 +237,11 @@ public final class TypingTest {
         CHECK.same("8: not changed", x.house(6), 0);
         CHECK.same("8: the open word is empty", x.house(3), 0);
         x.hand(2);
-        CHECK.same("8: the first offer", pick(x, "12", 0), 11);
+        CHECK.same("8: the first offer", Typist.chooseNth(x, 12, 0), 11);
         CHECK.same("8: pair", x.pair(1, 0), 1);
         CHECK.same("8: the hand", x.ofText(1, 2), 2);
-        CHECK.same("8: trust does not matter", pick(x, "555", 1), 999999);
-        CHECK.same("8: what was typed itself", pick(x, "11", 0), 11);
+        CHECK.same("8: trust does not matter", Typist.chooseNth(x, 555, 1), 999999);
+        CHECK.same("8: what was typed itself", Typist.chooseNth(x, 11, 0), 11);
         CHECK.state("8: is not to be put back", x, x::putBack);
     }
 
@@ -276,7 +260,7 @@ public final class TypingTest {
             CHECK.index("8: choose(" + nth + ")", x, () -> x.choose(nth));
         }
         for (int i = 0; i < 12; i++) {
-            pick(x, "1", 1);
+            Typist.chooseNth(x, 1, 1);
         }
         x.tap(1);
         CHECK.state("8: a full text", x, () -> x.choose(0));
@@ -286,8 +270,8 @@ public final class TypingTest {
     private static void putBackPutsBack() {
         Putitback x = new Putitback();
         x.give(55, 9);
-        write(x, "55");
-        write(x, "56");
+        Typist.write(x, 55);
+        Typist.write(x, 56);
         x.hand(1);
         CHECK.same("9: times", x.putBack(), 1);
         CHECK.same("9: shown", x.ofText(1, 1), 56);
@@ -318,14 +302,14 @@ public final class TypingTest {
     private static void putBackLearns() {
         Putitback x = new Putitback();
         x.give(55, 9);
-        pick(x, "99", 0);
+        Typist.chooseNth(x, 99, 0);
         x.putBack();
-        pick(x, "99", 0);
+        Typist.chooseNth(x, 99, 0);
         x.pass(5);
         x.putBack();
         CHECK.same("9: not with the second time", x.house(0), 1);
         x.hand(2);
-        pick(x, "99", 0);
+        Typist.chooseNth(x, 99, 0);
         x.putBack();
         CHECK.same("9: with the third of all hands", x.house(0), 2);
         CHECK.same("9: the word", x.ofBook(1, 0), 99);
@@ -333,52 +317,38 @@ public final class TypingTest {
         CHECK.same("9: learnt", x.ofBook(1, 2), 1);
         CHECK.same("9: today", x.ofBook(1, 3), 5);
         CHECK.same("9: no pair by that", x.pair(0, 1), 0);
-        write(x, "55");
+        Typist.write(x, 55);
         CHECK.same("9: now it is a word ahead", x.pair(1, 0), 1);
-        taps(x, "99");
+        Typist.taps(x, 99);
         x.choose(1);
         x.putBack();
         CHECK.same("9: it is in the book already", x.house(0), 2);
         CHECK.same("9: so its count stays", x.ofBook(1, 1), 1);
         x.forget(99);
         x.send();
-        pick(x, "99", 0);
+        Typist.chooseNth(x, 99, 0);
         x.putBack();
         CHECK.same("9: or with a later time", x.house(0), 2);
         x.forget(99);
         x.give(99, 7);
-        pick(x, "99", 1);
+        Typist.chooseNth(x, 99, 1);
         x.putBack();
         CHECK.same("9: a given one stays given", x.ofBook(1, 2), 0);
         CHECK.same("9: with its count", x.ofBook(1, 1), 7);
-    }
-
-    /** Chooses the word for those keys and puts it back, that often. */
-    private static void mend(Putitback x, String keys, int word, int times) {
-        for (int i = 0; i < times; i++) {
-            taps(x, keys);
-            int nth = 0;
-            while (nth < 11 && x.offer(nth) != word) {
-                nth++;
-            }
-            x.choose(nth);
-            x.putBack();
-            x.send();
-        }
     }
 
     /** The book is full, with the learnt words 1 (count 2), 2, 3 (count 1) among given ones. */
     private static Putitback withThreeLearnt() {
         Putitback x = new Putitback();
         x.give(555, 1);
-        mend(x, "1", 555, 3);
+        Typist.mend(x, 0, 1, 555, 3);
         x.give(556, 1);
-        mend(x, "2", 555, 3);
-        mend(x, "3", 555, 3);
+        Typist.mend(x, 0, 2, 555, 3);
+        Typist.mend(x, 0, 3, 555, 3);
         for (int i = 0; i < 7; i++) {
             x.give(661 + i, 1);
         }
-        write(x, "1");
+        Typist.write(x, 1);
         x.send();
         return x;
     }
@@ -387,16 +357,16 @@ public final class TypingTest {
         Putitback x = withThreeLearnt();
         CHECK.same("9: full", x.house(0), 12);
         CHECK.same("9: learnt ones", x.house(1), 3);
-        mend(x, "9", 555, 3);
+        Typist.mend(x, 0, 9, 555, 3);
         CHECK.same("9: full again", x.house(0), 12);
         CHECK.same("9: the new one is behind all", x.ofBook(11, 0), 9);
         CHECK.same("9: the one of count 2 stays", x.ofBook(1, 0), 1);
         CHECK.same("9: the given one of count 1 stays", x.ofBook(2, 0), 556);
         CHECK.same("9: the first learnt one of count 1 went", x.ofBook(3, 0), 3);
         CHECK.same("9: learnt ones again", x.house(1), 3);
-        mend(x, "8", 555, 3);
+        Typist.mend(x, 0, 8, 555, 3);
         CHECK.same("9: then the next", x.ofBook(3, 0), 661);
-        mend(x, "7", 555, 3);
+        Typist.mend(x, 0, 7, 555, 3);
         CHECK.same("9: then the new one itself", x.ofBook(11, 0), 7);
         CHECK.same("9: with 8 ahead of it", x.ofBook(10, 0), 8);
         CHECK.no("9: 9 is gone", x.forget(9));
@@ -407,14 +377,14 @@ public final class TypingTest {
     private static void theFirstPlaceGoes() {
         Putitback x = new Putitback();
         x.give(4, 1);
-        mend(x, "1", 4, 3);
-        mend(x, "2", 4, 3);
+        Typist.mend(x, 0, 1, 4, 3);
+        Typist.mend(x, 0, 2, 4, 3);
         x.forget(4);
         x.give(555, 1);
         for (int i = 0; i < 9; i++) {
             x.give(661 + i, 1);
         }
-        mend(x, "9", 555, 3);
+        Typist.mend(x, 0, 9, 555, 3);
         CHECK.same("9: the first place went", x.ofBook(0, 0), 2);
         CHECK.same("9: for the new one", x.ofBook(11, 0), 9);
         CHECK.same("9: its count", x.ofBook(11, 1), 1);
@@ -425,12 +395,12 @@ public final class TypingTest {
         for (int i = 0; i < 12; i++) {
             x.give(551 + i % 9 + i / 9 * 10, 1);
         }
-        mend(x, "9", 555, 3);
+        Typist.mend(x, 0, 9, 555, 3);
         CHECK.same("9: none is learnt", x.house(1), 0);
         CHECK.same("9: all stay", x.ofBook(11, 0), 563);
         CHECK.same("9: but it is counted", x.putBacks(0, 9), 3);
         x.forget(553);
-        mend(x, "9", 555, 1);
+        Typist.mend(x, 0, 9, 555, 1);
         CHECK.same("9: with the fourth time", x.ofBook(11, 0), 9);
     }
 
@@ -442,7 +412,7 @@ public final class TypingTest {
         x.blank();
         CHECK.state("9: as typed", x, x::putBack);
         x.give(4, 1);
-        write(x, "7");
+        Typist.write(x, 7);
         x.putBack();
         CHECK.state("9: put back already", x, x::putBack);
         x.erase();
@@ -454,9 +424,9 @@ public final class TypingTest {
         Putitback x = new Putitback();
         CHECK.state("10: nothing", x, x::erase);
         x.give(55, 9);
-        write(x, "55");
-        write(x, "56");
-        taps(x, "987");
+        Typist.write(x, 55);
+        Typist.write(x, 56);
+        Typist.taps(x, 987);
         CHECK.same("10: the last key", x.erase(), 7);
         CHECK.same("10: the open word", x.house(3), 98);
         CHECK.same("10: the key ahead", x.erase(), 8);
@@ -480,10 +450,10 @@ public final class TypingTest {
         CHECK.same("11: nothing", x.send(), 0);
         x.give(55, 9);
         x.hand(1);
-        write(x, "56");
+        Typist.write(x, 56);
         x.putBack();
-        write(x, "57");
-        taps(x, "12");
+        Typist.write(x, 57);
+        Typist.taps(x, 12);
         CHECK.same("11: words", x.send(), 2);
         CHECK.same("11: text", x.text(), "");
         CHECK.same("11: typed", x.typed(), "");
@@ -492,7 +462,7 @@ public final class TypingTest {
         CHECK.same("11: the hand stays", x.house(4), 1);
         CHECK.same("11: put backs stay", x.putBacks(1, 56), 1);
         CHECK.same("11: an open word alone", x.tap(5) + x.send(), 1);
-        write(x, "55");
+        Typist.write(x, 55);
         CHECK.same("11: no pair over a sending", x.pair(0, 0), 0);
     }
 }

@@ -17,13 +17,6 @@ public final class WouldBeTest {
         CHECK.end("WouldBeTest");
     }
 
-    private static int write(Putitback x, String keys) {
-        for (char key : keys.toCharArray()) {
-            x.tap(key - '0');
-        }
-        return x.blank();
-    }
-
     private static void offerTells() {
         Putitback x = new Putitback();
         x.tap(1);
@@ -49,12 +42,12 @@ public final class WouldBeTest {
             CHECK.argument("21: offer(" + nth + ") without a key", x, () -> x.offer(nth));
         }
         for (int i = 0; i < 4; i++) {
-            write(x, "44");
-            write(x, "33");
+            Typist.write(x, 44);
+            Typist.write(x, 33);
             x.send();
         }
         x.give(33, 1);
-        write(x, "44");
+        Typist.write(x, 44);
         x.give(44, 1);
         x.tap(1);
         CHECK.same("21: the pair is worth 8", x.ofBook(0, 4), 40 - 1 - 8);
@@ -71,7 +64,7 @@ public final class WouldBeTest {
         x.give(55, 9);
         CHECK.same("22: no key", x.wouldShow(0), -1);
         for (int i = 0; i < 2; i++) {
-            write(x, "56");
+            Typist.write(x, 56);
             x.putBack();
         }
         x.hand(1);
@@ -87,7 +80,7 @@ public final class WouldBeTest {
         CHECK.same("22: in the book", x.wouldShow(0), 55);
         x.blank();
         for (int i = 0; i < 9; i++) {
-            write(x, "55");
+            Typist.write(x, 55);
         }
         x.tap(5);
         x.tap(8);
@@ -111,7 +104,7 @@ public final class WouldBeTest {
             CHECK.yes("23: with " + word, x.isSound());
         }
         for (int i = 0; i < 12; i++) {
-            write(x, "5");
+            Typist.write(x, 5);
         }
         CHECK.yes("23: at the limits", x.isSound());
         x.send();
@@ -197,9 +190,9 @@ public final class WouldBeTest {
         x.pass(2);
         for (int hand = 0; hand < 3; hand++) {
             x.hand(hand);
-            write(x, "56");
+            Typist.write(x, 56);
             x.putBack();
-            write(x, "1");
+            Typist.write(x, 1);
         }
         CHECK.same("25: without a key", x.digest(), asked(x));
         x.tap(5);
@@ -212,7 +205,7 @@ public final class WouldBeTest {
         Putitback x = new Putitback();
         x.give(55, 9);
         x.give(1, 3);
-        write(x, "56");
+        Typist.write(x, 56);
         x.putBack();
         x.tap(5);
         x.tap(7);
@@ -238,12 +231,8 @@ public final class WouldBeTest {
         Putitback x = new Putitback();
         x.give(5, 1);
         for (int word = 111; word < 888; word++) {
-            String keys = String.valueOf(word);
-            if (keys.indexOf('0') < 0) {
-                for (char key : keys.toCharArray()) {
-                    x.tap(key - '0');
-                }
-                x.choose(0);
+            if (String.valueOf(word).indexOf('0') < 0) {
+                Typist.chooseNth(x, word, 0);
                 if (x.ofText(0, 0) != x.ofText(0, 1)) {
                     x.putBack();
                 }

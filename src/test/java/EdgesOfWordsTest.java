@@ -108,43 +108,31 @@ public final class EdgesOfWordsTest {
         CHECK.same("12: cost(" + other + ", " + one + ")", x.cost(other, one), due);
     }
 
+    private static void costAllBothWays(int due, int[]... pairs) {
+        for (int[] two : pairs) {
+            costBothWays(two[0], two[1], due);
+        }
+    }
+
     /** «Two KEYS are NEAR, if they are beside each other in a row» */
     private static void nearInARow() {
-        int[][] near = {{1, 2}, {2, 3}, {4, 5}, {5, 6}, {7, 8}, {8, 9}};
-        for (int[] two : near) {
-            costBothWays(two[0], two[1], 1);
-        }
-        int[][] far = {{1, 3}, {4, 6}, {7, 9}};
-        for (int[] two : far) {
-            costBothWays(two[0], two[1], 2);
-        }
+        costAllBothWays(1, new int[][] {{1, 2}, {2, 3}, {4, 5}, {5, 6}, {7, 8}, {8, 9}});
+        costAllBothWays(2, new int[][] {{1, 3}, {4, 6}, {7, 9}});
     }
 
     /** «or one directly above the other.» */
     private static void nearInAColumn() {
-        int[][] near = {{1, 4}, {2, 5}, {3, 6}, {4, 7}, {5, 8}, {6, 9}};
-        for (int[] two : near) {
-            costBothWays(two[0], two[1], 1);
-        }
-        int[][] far = {{1, 7}, {2, 8}, {3, 9}};
-        for (int[] two : far) {
-            costBothWays(two[0], two[1], 2);
-        }
+        costAllBothWays(1, new int[][] {{1, 4}, {2, 5}, {3, 6}, {4, 7}, {5, 8}, {6, 9}});
+        costAllBothWays(2, new int[][] {{1, 7}, {2, 8}, {3, 9}});
     }
 
     /** The rows are of three keys: the next number in the next row is not beside. */
     private static void notNearFromRowToRow() {
-        int[][] far = {{3, 4}, {6, 7}, {1, 9}, {3, 7}, {1, 6}, {3, 1}};
-        for (int[] two : far) {
-            costBothWays(two[0], two[1], 2);
-        }
+        costAllBothWays(2, new int[][] {{3, 4}, {6, 7}, {1, 9}, {3, 7}, {1, 6}, {4, 9}});
     }
 
     private static void notNearAtACorner() {
-        int[][] far = {{1, 5}, {2, 4}, {2, 6}, {3, 5}, {4, 8}, {5, 7}, {5, 9}, {6, 8}};
-        for (int[] two : far) {
-            costBothWays(two[0], two[1], 2);
-        }
+        costAllBothWays(2, new int[][] {{1, 5}, {2, 4}, {2, 6}, {3, 5}, {4, 8}, {5, 7}, {5, 9}, {6, 8}});
     }
 
     /** «COST of two KEYS: 0 of one and itself, 1 if they are NEAR, otherwise 2.» */

@@ -368,20 +368,20 @@ public final class Putitback {
         return number >= 0 && number < HANDS;
     }
 
-    private int trustOf(int number) {
-        return isHand(number) ? trust[number] : 0;
+    private int trustOf(int hand) {
+        return isHand(hand) ? trust[hand] : 0;
     }
 
-    private void lowerTrust(int number) {
-        if (isHand(number) && trust[number] > 0) {
-            trust[number]--;
+    private void lowerTrust(int hand) {
+        if (isHand(hand) && trust[hand] > 0) {
+            trust[hand]--;
         }
     }
 
     private void raiseTrust() {
-        for (int i = 0; i < HANDS; i++) {
-            if (trust[i] < LARGEST_TRUST) {
-                trust[i]++;
+        for (int hand = 0; hand < HANDS; hand++) {
+            if (trust[hand] < LARGEST_TRUST) {
+                trust[hand]++;
             }
         }
     }
@@ -392,8 +392,8 @@ public final class Putitback {
         return open != 0 && !line.isFull();
     }
 
-    private int shownFor(int number, int word) {
-        if (book.holds(word) || mends.timesOf(number, word) >= TIMES_TO_BELIEVE) {
+    private int shownFor(int hand, int word) {
+        if (book.holds(word) || mends.timesOf(hand, word) >= TIMES_TO_BELIEVE) {
             return word;
         }
         weigh(word);
@@ -402,7 +402,7 @@ public final class Putitback {
             return word;
         }
         int offered = book.wordAt(first);
-        return costs.ofWords(word, offered) <= trustOf(number) ? offered : word;
+        return costs.ofWords(word, offered) <= trustOf(hand) ? offered : word;
     }
 
     private int endWord(int shown) {
@@ -514,8 +514,8 @@ public final class Putitback {
     private boolean mendsAreShown() {
         for (int i = 0; i < mends.size(); i++) {
             int word = mends.wordAt(i);
-            for (int number = 0; number < HANDS; number++) {
-                if (mends.timesOf(number, word) >= TIMES_TO_BELIEVE && shownFor(number, word) != word) {
+            for (int hand = 0; hand < HANDS; hand++) {
+                if (mends.timesOf(hand, word) >= TIMES_TO_BELIEVE && shownFor(hand, word) != word) {
                     return false;
                 }
             }
@@ -550,11 +550,11 @@ public final class Putitback {
 
     private long withHands(long before) {
         long d = before;
-        for (int number = 0; number < HANDS; number++) {
+        for (int hand = 0; hand < HANDS; hand++) {
             for (int what = 0; what < 3; what++) {
-                d = d * 31 + ofHand(number, what);
+                d = d * 31 + ofHand(hand, what);
             }
-            d = d * 31 + wouldShow(number);
+            d = d * 31 + wouldShow(hand);
         }
         return d;
     }
@@ -863,49 +863,49 @@ public final class Putitback {
             return NONE;
         }
 
-        int timesOf(int number, int word) {
+        int timesOf(int hand, int word) {
             int at = find(word);
-            return at != NONE && isHand(number) ? times[number][at] : 0;
+            return at != NONE && isHand(hand) ? times[hand][at] : 0;
         }
 
         int timesOfAll(int word) {
             int sum = 0;
-            for (int number = 0; number < HANDS; number++) {
-                sum += timesOf(number, word);
+            for (int hand = 0; hand < HANDS; hand++) {
+                sum += timesOf(hand, word);
             }
             return sum;
         }
 
-        int wordsOf(int number) {
+        int wordsOf(int hand) {
             int different = 0;
-            for (int at = 0; at < size && isHand(number); at++) {
-                if (times[number][at] > 0) {
+            for (int at = 0; at < size && isHand(hand); at++) {
+                if (times[hand][at] > 0) {
                     different++;
                 }
             }
             return different;
         }
 
-        int timesOfHand(int number) {
+        int timesOfHand(int hand) {
             int sum = 0;
-            for (int at = 0; at < size && isHand(number); at++) {
-                sum += times[number][at];
+            for (int at = 0; at < size && isHand(hand); at++) {
+                sum += times[hand][at];
             }
             return sum;
         }
 
-        int count(int number, int word) {
+        int count(int hand, int word) {
             int at = find(word);
             if (at == NONE && size < MENDED_WORDS) {
                 at = size;
                 words[at] = word;
                 size++;
             }
-            if (at == NONE || !isHand(number)) {
+            if (at == NONE || !isHand(hand)) {
                 return 0;
             }
-            times[number][at]++;
-            return times[number][at];
+            times[hand][at]++;
+            return times[hand][at];
         }
     }
 }

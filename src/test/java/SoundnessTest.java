@@ -118,8 +118,8 @@ public final class SoundnessTest {
 
     /** What was PUT BACK twice is not believed, just three times: that is what may not be. */
     private static void putBackTwiceButNotShown() throws IOException, ReflectiveOperationException {
-        Spoilt.Maker maker = spoil("mends.timesOf(number, word) >= TIMES_TO_BELIEVE) {",
-                "mends.timesOf(number, word) >= 3) {");
+        Spoilt.Maker maker = spoil("mends.timesOf(hand, word) >= TIMES_TO_BELIEVE) {",
+                "mends.timesOf(hand, word) >= 3) {");
         if (maker == null) {
             return;
         }
